@@ -382,7 +382,7 @@ public final class SafeNet {
     /** THE TAPE, and the reading of it. The methods named read.. answer the number of a FAULT at place, or 0. */
     private static final class Text {
         private static final int ROOM = 400, FIGURES = 4;
-        private static final int END = 0, NAME = 1, NUMBER = 2, SIGN = 3, NO_TOKEN = 4;
+        private static final int END = 0, NAME = 1, NUMBER = 2, SIGN = 3, BLANK = 4, NO_TOKEN = 5;
         private static final int CANNOT_STAND = 1, NOT_AS_TOLD = 2, NO_ROOM = 3;
 
         private final byte[] bytes = new byte[ROOM];
@@ -473,46 +473,31 @@ public final class SafeNet {
             return isWord("like") ? LIKE : -1;
         }
 
+        /** Goes on to the next TOKEN. */
         private void take() {
             place = behind;
-            while (place < length && isBlank(place)) place++;
-            behind = place;
-            if (place >= length) {
-                token = END;
-            } else if (isLetter(place)) {
-                takeName();
-            } else if (isFigure(place)) {
-                takeNumber();
-            } else {
-                token = bytes[place] == ';' ? SIGN : NO_TOKEN;
-                behind = place + 1;
-            }
+            while (place < length && sortAt(place) == BLANK) place++;
+            token = sortAt(place);
+            behind = Math.min(place + 1, length);
+            boolean goesOn = token == NAME || token == NUMBER;
+            while (goesOn && behind < length && sortAt(behind) == token) behind++;
+            if (token == NUMBER) takeWorth();
         }
 
-        private void takeName() {
-            token = NAME;
-            while (behind < length && isLetter(behind)) behind++;
-        }
-
-        private void takeNumber() {
+        private void takeWorth() {
             worth = 0;
-            while (behind < length && isFigure(behind)) {
-                if (behind < place + FIGURES) worth = 10 * worth + bytes[behind] - '0';
-                behind++;
-            }
-            token = behind - place > FIGURES ? NO_TOKEN : NUMBER;
+            for (int i = place; i < behind && i < place + FIGURES; i++) worth = 10 * worth + bytes[i] - '0';
+            if (behind - place > FIGURES) token = NO_TOKEN;
         }
 
-        private boolean isBlank(int i) {
-            return bytes[i] == 32 || bytes[i] == 10;
-        }
-
-        private boolean isLetter(int i) {
-            return bytes[i] >= 'a' && bytes[i] <= 'z';
-        }
-
-        private boolean isFigure(int i) {
-            return bytes[i] >= '0' && bytes[i] <= '9';
+        /** What a TOKEN that begins with this byte is. */
+        private int sortAt(int i) {
+            if (i < 0 || i >= length) return END;
+            byte b = bytes[i];
+            if (b == 32 || b == 10) return BLANK;
+            if (b >= 'a' && b <= 'z') return NAME;
+            if (b >= '0' && b <= '9') return NUMBER;
+            return b == ';' ? SIGN : NO_TOKEN;
         }
 
         private boolean isWord(String word) {
