@@ -640,11 +640,11 @@ public final class SafeNet {
         }
 
         private boolean isBorneUp(int step, int by) {
-            int bearing = Integer.bitCount(partBits[step] & by);
+            int bearing = partBits[step] & by;
             switch (form[step]) {
-                case ALL: return bearing == partCount[step];
-                case ANY: return bearing > 0;
-                case MOST: return 2 * bearing > partCount[step];
+                case ALL: return bearing == partBits[step];
+                case ANY: return bearing != 0;
+                case MOST: return 2 * Integer.bitCount(bearing) > partCount[step];
                 default: return (by >> parts[step * PARTS] & 1) == 1;
             }
         }
@@ -653,7 +653,8 @@ public final class SafeNet {
         private int nextRound(int ahead, int barred) {
             int next = ahead;
             for (int s = 0; s < steps; s++) {
-                if (open[s] == 0 && isBorneUp(s, ahead)) next |= 1 << held[s] & ~barred;
+                int bit = 1 << held[s] & ~barred & ~next;
+                if (bit != 0 && open[s] == 0 && isBorneUp(s, ahead)) next |= bit;
             }
             return next;
         }

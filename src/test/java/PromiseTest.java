@@ -162,6 +162,10 @@ public final class PromiseTest {
         due(4, "what moved down", x.set(1, 3, 1), 1);
         due(4, "what moved down", x.looked(1, 3, 1), 1);
         due(4, "what moved down", x.node(1, 2), 13);
+        x.sheet(1, 2, 9);
+        due(2, "items are 0 at first", x.looked(1, 0, 1), 1);
+        due(2, "items are 0 at first", x.node(0, 2), 0);
+        due(2, "items are 0 at first", x.node(0, 3), 0);
         due(4, "none", x.copy(0, 6, 1, 9, 0), 0);
         due(4, "none, beyond", x.copy(0, 7, 1, 9, 0), PLACE);
         due(4, "beyond the end of a", x.copy(0, 1, 1, 0, 6), PLACE);
@@ -232,10 +236,11 @@ public final class PromiseTest {
         due(7, "nothing came", x.count(3), 2);
         due(8, "it stays", x.net(), 4);
         due(8, "it stays", x.fault(), 2);
-        put(x, "leaf 5;step any 1 4;");
+        put(x, "leaf 5;step any 1 4 2 3;");
         due(7, "in its place", x.net(), 5);
         due(7, "in its place", x.node(4, 1), 5);
-        due(7, "in its place", x.step(2, 2), 1);
+        due(7, "in its place", x.step(2, 2), 3);
+        due(7, "in its place", x.part(2, 1), 2);
     }
 
     private static void faults() {
@@ -251,6 +256,14 @@ public final class PromiseTest {
         dueFault("leaf a;", 5, 1);
         dueFault("leaf ;", 5, 1);
         dueFault("leafs 1;", 0, 1);
+        dueFault("leafz 1;", 0, 1);
+        dueFault("aleaf 1;", 0, 1);
+        dueFault("xeaf 1;", 0, 1);
+        dueFault("lea 1;", 0, 1);
+        dueFault("leaf`1;", 4, 1);
+        dueFault("leaf{1;", 4, 1);
+        dueFault("leaf/1;", 4, 1);
+        dueFault("leaf:1;", 4, 1);
         dueFault("Leaf 1;", 0, 1);
         dueFault("leaf" + (char) 233 + "1;", 4, 1);
         dueFault("leaf\t1;", 4, 1);
@@ -483,6 +496,16 @@ public final class PromiseTest {
         due(17, "no rounds", x.shown(1), 0);
         due(17, "what 3", x.shown(3), BAD);
         due(17, "what -1", x.shown(-1), BAD);
+        SafeNet first = sure("claim;leaf 0;leaf 4;step any 0 1;");
+        due(17, "claim 0", first.shown(0), 1);
+        due(17, "claim 0", first.shown(1), 1);
+        due(9, "claim 0", first.node(0, 5), 1);
+        due(18, "claim 0", first.leaning(1), 1);
+        due(19, "claim 0", first.felling(0, -1), 1);
+        due(19, "claim 0", first.felling(0, 0), 2);
+        due(20, "claim 0", first.hand(), 0);
+        due(25, "claim 0", first.odds(0, 0), 1);
+        due(31, "claim 0", first.count(2), 1);
         SafeNet alone = sure("claim;step any 0 0;step like 0 0;");
         due(17, "by itself alone", alone.shown(0), 0);
         SafeNet half = sure("leaf 0;leaf 0;claim;step most 2 0 1;");
@@ -493,6 +516,7 @@ public final class PromiseTest {
     private static void circles() {
         SafeNet x = of("claim;".repeat(7) + "leaf 1;step all 0 1;step any 1 2 7;step like 2 7 0;step all 3 0;step most 4 4;step all 5 6;");
         due(17, "circles", x.shown(2), 0b10111);
+        due(17, "a circle by one of two steps", of("claim;claim;leaf 0;step any 0 1;step all 0 2;step like 1 2 0;").shown(2), 3);
         due(17, "no circle", of("claim;claim;claim;step all 0 1 2;step all 1 2;").shown(2), 0);
         due(17, "a circle down the numbers", of("claim;claim;claim;step all 2 1;step all 1 0;step all 0 2;").shown(2), 7);
     }
@@ -542,6 +566,20 @@ public final class PromiseTest {
         due(19, "not shown, i below -1", x.felling(5, -2), BAD);
         SafeNet mixed = sure("leaf 0;leaf 0;leaf 0;leaf 0;leaf 0;leaf 0;claim;claim;claim;"
             + "step any 6 0 1 5;step any 7 2 4;step all 8 3 7 6;");
+        SafeNet ones = sure("leaf 0;leaf 0;leaf 0;claim;step all 3 2 1 0;");
+        int[] oneByOne = {1, 2, 4, NONE};
+        due(19, "ones", ones.felling(3, -1), 3);
+        for (int i = 0; i < 4; i++) due(19, "ones", ones.felling(3, i), oneByOne[i]);
+        SafeNet twos = sure("leaf 0;leaf 0;leaf 0;claim;claim;step any 3 1 0;step any 4 2;step all 4 3;");
+        int[] twoByTwo = {5, 6, NONE};
+        twos.fall(1, 1);
+        due(19, "twos", twos.felling(4, -1), 1);
+        twos.fall(1, 0);
+        due(19, "threes", twos.felling(4, -1), 1);
+        due(19, "threes", twos.felling(4, 0), 7);
+        SafeNet both = sure("leaf 0;leaf 0;leaf 0;claim;claim;step all 3 1 0;step any 4 2 3;");
+        due(19, "twos", both.felling(4, -1), 2);
+        for (int i = 0; i < 3; i++) due(19, "twos", both.felling(4, i), twoByTwo[i]);
         int[] sets = {8, 20, 35, NONE};
         due(19, "mixed", mixed.felling(8, -1), 3);
         for (int i = 0; i < 4; i++) due(19, "mixed", mixed.felling(8, i), sets[i]);
@@ -598,6 +636,14 @@ public final class PromiseTest {
         y.weigh(0, 60, 60);
         y.weigh(1, 60, 60);
         due(24, "without pairs", y.agree(), 1);
+        y.weigh(2, 0, 0);
+        y.pair(1, 2, 1, 100);
+        due(24, "a hundredth of none", y.agree(), 0);
+        y.pair(1, 2, 0, 100);
+        due(24, "none of none", y.agree(), 1);
+        y.unweigh();
+        y.weigh(0, 60, 60);
+        y.weigh(1, 60, 60);
         y.pair(0, 1, 0, 19);
         due(24, "60 and 60 share 20", y.agree(), 0);
         y.pair(1, 0, 0, 20);
@@ -649,6 +695,11 @@ public final class PromiseTest {
         x.weigh(1, 50, 50);
         x.weigh(2, 50, 50);
         dueOdds("not in hundredths", x, 5, 11, 40, 31, 40);
+        x.pair(1, 2, 1, 30);
+        dueOdds("a pair of the last two", x, 5, 11, 40, 31, 40);
+        x.pair(1, 2, 48, 49);
+        dueOdds("a pair of the last two", x, 5, 12, 25, 13, 25);
+        dueOdds("a pair of the last two", x, 3, 3, 100, 49, 100);
         x.pair(0, 1, 60, 60);
         due(25, "not agreed", x.odds(3, 0), STATE);
         due(25, "not agreed", x.odds(3, 3), STATE);
@@ -718,6 +769,9 @@ public final class PromiseTest {
     }
 
     private static void asks() {
+        SafeNet top = of("claim;claim;step any 1 0;step all 1 0;");
+        dueAsk(top, 1, 0, 3, 14, 13, 10, 21, 20);
+        dueAsk(top, 0, 0, 2, 13, 10, 21, 20);
         SafeNet x = of("leaf 4;given 5;claim;claim;step any 2 0 1;step all 3 2 0;step like 3 0;");
         dueAsk(x, 0, 0, 7, 11, 10);
         dueAsk(x, 0, 1, 0, 20);
