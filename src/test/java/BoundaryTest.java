@@ -149,6 +149,7 @@ public final class BoundaryTest {
     // ---- Terms
 
     private static void terms() {
+        numbersFromZero();
         refusalsInTheirOrder();
         sheetsAndLanes();
         signsOfTexts();
@@ -165,6 +166,40 @@ public final class BoundaryTest {
         raising();
         oneHand();
         kinds();
+    }
+
+    /** The lowest NODE, STEP, PART, DOUBT, HAND and WEIGHED one has no meaning of its own. */
+    private static void numbersFromZero() {
+        says("Terms", "Numbers go from 0 on.");
+        SafeNet x = sure("claim;claim;leaf 0;step any 0 2;step any 1 0;");
+        due("shown(0)", x.shown(0), 3);
+        due("shown(1)", x.shown(1), 2);
+        due("node(0, 5)", x.node(0, 5), 1);
+        due("leaning(0)", x.leaning(0), 2);
+        due("leaning(2)", x.leaning(2), 3);
+        due("felling(0, -1)", x.felling(0, -1), 1);
+        due("felling(0, 0)", x.felling(0, 0), 4);
+        due("hand()", x.hand(), 0);
+        due("kind(0)", x.kind(0), 3);
+        due("as(0, 0)", x.as(0, 0), 0);
+        due("ask(0, 0)", x.ask(0, 0), 101);
+        dueOdds(x, 0, 1, 1, 1, 1);
+        x.weigh(2, 10, 30);
+        dueHundredths(x, 0, 10, 30);
+        due("raise(0)", x.raise(0), 2);
+        x.doubt(0, 0, 2);
+        due("borne(0)", x.borne(0), 1);
+        due("part(0, 0)", x.part(0, 0), 2);
+        due("hand(), two claims fall by HAND 4, one by HAND 0", sure("claim;claim;claim;leaf 4;leaf 0;step any 0 3;step any 1 3;step any 2 4;").hand(), 4);
+        due("hand(), no claim falls", sure("claim;leaf 1;leaf 2;step any 0 1 2;").hand(), NONE);
+        SafeNet beside = sure("claim;claim;leaf 0;leaf 0;step any 0 2;step any 1 0;");
+        due("felling(0, -1)", beside.felling(0, -1), 1);
+        due("felling(1, -1)", beside.felling(1, -1), 1);
+        due("felling(1, 0)", beside.felling(1, 0), 4);
+        SafeNet y = sure("leaf 0;leaf 0;claim;step any 2 1 0;");
+        y.weigh(0, 10, 20);
+        y.weigh(1, 0, 0);
+        due("raise(2), NODE 0", y.raise(2), 0);
     }
 
     private static void refusalsInTheirOrder() {
@@ -444,7 +479,7 @@ public final class BoundaryTest {
         dueFault("claim;step any any;", 15, 1);
         dueFault("claim;step any 0 any;", 17, 1);
         dueFault("claim;step any 0 0 any;", 19, 1);
-        for (String name : new String[] {"lea", "leafs", "leag", "aleaf", "Leaf", "LEAF", "give", "givens", "clai", "claims", "ste", "steps"}) {
+        for (String name : new String[] {"lea", "leafs", "leag", "meaf", "aleaf", "Leaf", "LEAF", "give", "givens", "clai", "claims", "ste", "steps"}) {
             dueFault(name + " 1;", 0, 1);
         }
         for (String form : new String[] {"al", "alls", "an", "anys", "mos", "mosts", "lik", "likes", "a", "leaf"}) {
@@ -656,6 +691,14 @@ public final class BoundaryTest {
         due("felling(3, -1)", less.felling(3, -1), 2);
         due("felling(3, 0)", less.felling(3, 0), 1);
         due("felling(3, 1)", less.felling(3, 1), 6);
+        SafeNet ones = sure("leaf 0;leaf 0;leaf 0;claim;step all 3 0 1 2;");
+        due("felling(3, -1), each alone", ones.felling(3, -1), 3);
+        for (int i = 0; i < 3; i++) due("felling(3, " + i + ")", ones.felling(3, i), 1 << i);
+        due("felling(3, 3)", ones.felling(3, 3), NONE);
+        SafeNet beside = sure("leaf 0;leaf 0;leaf 0;leaf 0;claim;claim;step all 4 0 1;step any 5 4 2;");
+        due("felling(5, -1), a leaf beside that does not matter", beside.felling(5, -1), 2);
+        due("felling(5, 0)", beside.felling(5, 0), 5);
+        due("felling(5, 1)", beside.felling(5, 1), 6);
 
         says("FELLING SETS", "by how many they have, then by numbers (bits)");
         SafeNet order = sure("leaf 0;leaf 0;leaf 0;leaf 0;leaf 0;leaf 0;claim;claim;claim;step any 6 0 1 2;step any 7 3 4;step all 8 5 6 7;");
@@ -716,6 +759,27 @@ public final class BoundaryTest {
             for (int n = 0; n < 3; n++) three.pair(n, (n + 1) % 3, 0, row[1]);
             due("agree(), three of " + row[0] + ", PAIRS up to " + row[1], three.agree(), row[2]);
         }
+        for (int a = 0; a < 3; a++) {
+            for (int b = 0; b < 3; b++) {
+                if (a != b) dueSpansOfPair(a, b);
+            }
+        }
+    }
+
+    /** All spans that can be told are told, and bind: this PAIR's alone says what the two share. */
+    private static void dueSpansOfPair(int a, int b) {
+        SafeNet x = sure("leaf 0;leaf 0;leaf 0;claim;step all 3 " + a + " " + b + ";");
+        for (int n = 0; n < 3; n++) x.weigh(n, 45, 55);
+        for (int n = 0; n < 3; n++) x.pair(n, (n + 1) % 3, 15, 35);
+        dueHundredths(x, 3, 15, 35);
+        x.pair(a, b, 21, 29);
+        dueHundredths(x, 3, 21, 29);
+        x.pair(b, a, 55, 55);
+        dueHundredths(x, 3, 55, 55);
+        x.pair(a, b, 56, 56);
+        due("agree(), PAIR " + a + ", " + b + " above each", x.agree(), 0);
+        x.pair(b, a, 0, 0);
+        dueHundredths(x, 3, 0, 0);
     }
 
     /** Two share at least what is above 100 of their lows, and at most the lesser of their highs. */
@@ -1267,6 +1331,9 @@ public final class BoundaryTest {
         due("looked(0, 1, 2), one NODE twice", x.looked(0, 1, 2), 2);
         due("node(0, 2): the later stays", x.node(0, 2), 101);
         due("node(1, 2): not told anew", x.node(1, 2), 101);
+        x.set(0, 4, 99);
+        due("looked(0, 1, 1), no such NODE behind it", x.looked(0, 1, 1), 1);
+        due("node(0, 2)", x.node(0, 2), 100);
 
         says("Promise 14", "BAD: SHEET, n; NULL; PLACE");
         for (int s : outside(0, 7)) due("looked(" + s + ", 0, 1)", x.looked(s, 0, 1), BAD);
@@ -1382,6 +1449,7 @@ public final class BoundaryTest {
         x.doubt(0, 0, 5);
         due("hand(): of leaves, not of who BORE the DOUBT", x.hand(), 0);
         due("hand(), the highest", sure("leaf 9;claim;step any 1 0;").hand(), 9);
+        due("hand(), all NODES there can be", sure("leaf 8;".repeat(18) + "claim;leaf 9;step any 18 19;").hand(), 9);
     }
 
     // ---- Promises 21 to 26
@@ -1535,6 +1603,15 @@ public final class BoundaryTest {
     }
 
     private static void askEdges() {
+        says("Terms 4", "12 of GIVENS: what 11 gives, twice.");
+        SafeNet none = of("given 0;given 9;leaf 9;");
+        due("ask(0, 0), twice none", none.ask(0, 0), 0);
+        due("ask(1, 0), twice the highest HAND", none.ask(1, 0), 18);
+        int[] bodies = {12, 11, 10, NONE};
+        for (int i = 0; i < 4; i++) due("trace(" + i + ")", none.trace(i), bodies[i]);
+        due("ask(2, 0), a leaf", none.ask(2, 0), 9);
+        for (int i = 0; i < 3; i++) due("trace(" + i + ")", none.trace(i), bodies[i + 1]);
+
         says("Terms 4", "15 of LOST ones: 0 less what 11 gives.");
         SafeNet x = of("leaf 0;given 9;claim;step any 2 1;");
         x.fall(0, 1);
@@ -1810,7 +1887,7 @@ public final class BoundaryTest {
 
     /** Every call with every choice of edges for its arguments, on objects in three states: none may throw. */
     private static void anyArguments() {
-        says("The public face", "each call answers, for any arguments");
+        says("LANGUAGE.md, rule 7", "No call may ever throw or fail to end, for any arguments in any state");
         int[] edges = {MIN, -1, 0, 1, 3, 6, 7, 8, 40, 100, 9999, MAX};
         for (int state = 0; state < 3; state++) {
             for (int a : edges) {
